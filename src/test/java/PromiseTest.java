@@ -133,6 +133,18 @@ public final class PromiseTest {
         }
     }
 
+    /** Answers asked for before a drop are not given again after it. */
+    private static void promise3DropChangesCurve() {
+        CrashPlanner x = twoInARow();
+        x.add(0, 5, 9, 8, 3);
+        due("3: cost(8) with three", x.cost(8), 18);
+        due("3: fastest with three", x.fastest(), 8);
+        due("3: drop the one beside", x.drop(2), 2);
+        due("3: cost(8) with two", x.cost(8), 15);
+        due("3: fastest with two", x.fastest(), 6);
+        due("3: within(15) with two", x.within(15), 8);
+    }
+
     private static void promise4Price() {
         CrashPlanner x = twoInARow();
         due("4: curve before", x.cost(10), 4);
@@ -296,6 +308,7 @@ public final class PromiseTest {
         promise2AddWrong();
         promise3Drop();
         promise3DropMovesWhole();
+        promise3DropChangesCurve();
         promise4Price();
         promise5Slowest();
         promise6Fastest();
