@@ -234,7 +234,7 @@ public final class PromiseTest {
         }
         due("7: the dearest plan", seven.cost(6), 420);
         due("7: one day of seven jobs", seven.cost(8), 140);
-        // To reach 8 the job across is cheapest; to reach 7 it is let go slack again in part.
+        // The job across saves 2 days for a deadline of 8, 1 for 7 and none for 6.
         CrashPlanner bridge = new CrashPlanner();
         bridge.add(0, 1, 4, 1, 5);
         bridge.add(1, 5, 4, 1, 5);
@@ -242,6 +242,7 @@ public final class PromiseTest {
         bridge.add(2, 5, 4, 1, 5);
         bridge.add(1, 2, 2, 0, 1);
         due("7: bridge, cost(8)", bridge.cost(8), 2);
+        due("7: bridge, cost(7)", bridge.cost(7), 11);
         due("7: bridge, cost(6)", bridge.cost(6), 20);
         due("7: bridge, cost(2)", bridge.cost(2), 62);
     }
